@@ -332,6 +332,11 @@ public final class AheadTest {
         T.due("26: none", x.fits(0, 0, 2, 1), 0);
         Due.put(x, 0, 24, 17);
         T.due("26: a fainter", x.fits(0, 0, 2, 1), 32);
+        // In yard 1 and not in yard 0 one of a 1 runs, and faints in yard 3.
+        SeatsToTheReluctant y = one(5, 1, 0, 1, 24);
+        y.run(1);
+        Due.put(y, 0, 17, 10, 10, 3);
+        T.due("26: a fainter behind a yard in truth", y.fits(0, 0, 4, 0), 1023);
         x.row(1, 3, 31);
         for (int i = 0; i < 31; i++) {
             x.set(1, i, 0x500000000L + (i < 3 ? 17 - 7 * i : i < 6 ? 5 - i : 0));
@@ -366,6 +371,9 @@ public final class AheadTest {
         T.due("27: a fainter, how many", x.tells(0, 1), 2);
         x = one(4, 3, 0, 1, 20);
         T.due("27: a longer, n", x.tells(0, 0), 1);
+        SeatsToTheReluctant y = one(5, 3, 0, 1, 24);
+        y.run(4);
+        T.due("27: a fainter in the yards in truth", y.tells(0, 0), 1);
         T.due("27: a longer, how many", x.tells(0, 1), 1);
         x = one(1, 9, 0, 1, 20);
         T.due("27: a coward of 9, how many", x.tells(0, 1), 2);

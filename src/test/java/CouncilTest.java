@@ -26,6 +26,7 @@ public final class CouncilTest {
         powers(council(0, 0, 0), 7, 2, 2, 2);
         powers(council(0, 0, 0, 0, 0, 0, 0), 127, 720, 720, 720, 720, 720, 720, 720);
         powers(council(9, 0, 0), 7, 6, 0, 0);
+        powers(council(9, 0, 0, 0, 0, 0, 0), 127, 5040, 0, 0, 0, 0, 0, 0);
         // Weights 2, 1, 1: half is 2, so the first needs one more; the others need him.
         powers(council(1, 0, 0), 7, 4, 1, 1);
         powers(council(0, 0), 3, 1, 1);
@@ -57,6 +58,7 @@ public final class CouncilTest {
         T.due("29: of several the least", x.carries(15), 10);
         x = council(0, 0, 0, 0, 0, 0, 9);
         T.due("29: one at the end", x.carries(127), 64);
+        T.due("29: one at the beginning", council(9, 0, 0).carries(7), 1);
         // Weights 1, 1, 1, 5, 5: three light ones and one heavy are less as bits than the two heavy.
         x = council(0, 0, 0, 4, 4);
         T.due("29: fewest, not least", x.carries(31), 24);

@@ -208,6 +208,9 @@ public final class PortTest {
         x.person(4, 0, 1, 1, 18);
         T.due("18: put out", x.who(1), 8);
         T.due("18: flee", x.who(2), 11);
+        x.tell(0, 0, 10);
+        T.due("18: flee, the first no more", x.who(2), 10);
+        x.tell(0, 0, 5);
         T.due("18: chosen: the furthest, then the first of three alike", x.who(0), 5);
         x.ask(0, 1);
         T.due("18: one seat", x.who(0), 4);

@@ -56,6 +56,13 @@ public final class TruthTest {
         T.due("34: no yard has gone", x.status(4), 0);
         x.ask(1, 0);
         T.due("34: who doesn't smell", x.vote(), 5);
+        // Behind a yard the two would be alike; now the second is further.
+        x = new SeatsToTheReluctant();
+        x.person(0, 0, 0, 1, 3);
+        x.person(0, 0, 20, 4, 2);
+        x.ask(0, 1);
+        T.due("34: behind a yard", x.chosen(1), 1);
+        T.due("34: now", x.vote(), 2);
     }
 
     // The draws written out once more: the state is a long, whose lowest 32 bits are the seed.
