@@ -56,7 +56,7 @@ public final class TextTest {
         }
         good(x, "open 9", 1);
         T.due("15: status(0)", x.status(0), 2);
-        good(x, "person 1 1 1 1 0;person 1 1 1 1 00", 2);
+        good(x, "open 0;person 1 1 1 1 0;person 1 1 1 1 00", 3);
         T.due("15: squareOf(0, 1)", x.squareOf(0, 1), 12);
     }
 
