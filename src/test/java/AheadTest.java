@@ -20,6 +20,7 @@ public final class AheadTest {
         crowd();
         judge();
         nothingIsChanged();
+        inAnyOrder();
         T.end();
     }
 
@@ -502,5 +503,48 @@ public final class AheadTest {
             T.due("status(" + what + ")", x.status(what), due[what]);
         }
         T.due("MAX", x.where(0, MAX), -6);
+    }
+
+    interface Asking {
+        long of(SeatsToTheReluctant x);
+    }
+
+    private static SeatsToTheReluctant port() {
+        SeatsToTheReluctant x = new SeatsToTheReluctant();
+        int[] squares = {24, 0, 23, 41, 41, 12, 30};
+        int[] wants = {20, 1, 19, 3, 8, 5, 12};
+        for (int p = 0; p < 7; p++) {
+            x.person((p + 5) % 7, p, wants[p], 1 + p % 4, squares[p]);
+        }
+        x.fence(16, true);
+        x.fence(31, true);
+        x.run(3);
+        Due.put(x, 0, 24, 8, 24, 5);
+        Due.write(x, 1, "seats 9");
+        return x;
+    }
+
+    /** What a call answers doesn't hang on what else has been asked ahead of it. */
+    private static void inAnyOrder() {
+        Asking[] askings = {
+            x -> x.far(20), x -> x.who(0), x -> x.who(1), x -> x.who(2), x -> x.where(1, 5), x -> x.where(4, 2),
+            x -> x.chosen(0), x -> x.chosen(7), x -> x.hide(3, 4), x -> x.to(5, 42), x -> x.to(2, 6),
+            x -> x.spared(3, 2), x -> x.spared(1, 0), x -> x.wanting(3, 2, 0), x -> x.wanting(4, 9, 1),
+            x -> x.without(3, 0), x -> x.without(5, 3), x -> x.fits(0, 0, 1, 0), x -> x.fits(0, 3, 2, 1),
+            x -> x.tells(4, 0), x -> x.tells(5, 1), x -> x.power(2, 109), x -> x.carries(95), x -> x.bell(6),
+            x -> x.crowd(0, 0), x -> x.crowd(3, 0), x -> x.crowd(0, 1), x -> x.crowd(3, 1), x -> x.judge(0, 4, 0),
+            x -> x.judge(0, 1, 1), x -> x.port(1), x -> x.vote(), x -> x.act(5, 2, 77)
+        };
+        for (int i = 0; i < askings.length; i++) {
+            long due = askings[i].of(port());
+            for (int j = 0; j < askings.length; j++) {
+                SeatsToTheReluctant x = port();
+                // A vote changes what is.
+                if (j != askings.length - 2) {
+                    askings[j].of(x);
+                    T.due("asking " + i + " behind asking " + j, askings[i].of(x), due);
+                }
+            }
+        }
     }
 }
