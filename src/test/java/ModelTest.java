@@ -3,8 +3,9 @@ import java.util.function.LongSupplier;
 
 /** Long runs of calls by a fixed seed, each answer held against the model's. */
 public final class ModelTest {
-    private static final int RUNS = 400;
-    private static final int CALLS = 160;
+    private static final int RUNS = 700;
+    // Nothing is promised behind 512 calls: one asking takes 120 at most, what is asked at the end 83.
+    private static final int CALLS = 512 - 120 - 83;
     private static final int[] ODD = {
         Integer.MIN_VALUE, Integer.MAX_VALUE, -2, -1, 7, 8, 30, 31, 49, 99, 160, 161, 1 << 30, Integer.MIN_VALUE + 1
     };
@@ -13,6 +14,7 @@ public final class ModelTest {
     private final Due due;
     private final SeatsToTheReluctant x = new SeatsToTheReluctant();
     private final Model model = new Model();
+    private int calls = 0;
 
     private ModelTest(long seed, Due due) {
         this.random = new Random(seed);
@@ -28,7 +30,7 @@ public final class ModelTest {
     }
 
     private void run(int run) {
-        for (int call = 0; call < CALLS; call++) {
+        while (calls < CALLS) {
             ask(run);
         }
         for (int what = -1; what < 19; what++) {
@@ -45,6 +47,7 @@ public final class ModelTest {
     }
 
     private void hold(int run, String call, long got, LongSupplier want, int apart) {
+        calls++;
         long answer;
         try {
             answer = want.getAsLong();
