@@ -39,7 +39,7 @@ public final class SeatsToTheReluctant {
     private final int[] refusals = new int[ROOM + 1];
     private final Ways ways = new Ways();
     private final Future future = new Future();
-    private final Reader reader = new Reader(trial);
+    private final Reader reader = new Reader();
     private final Deeds deeds = new Deeds();
     private boolean imaged = false;
     private int latestFault = NONE;
@@ -259,7 +259,7 @@ public final class SeatsToTheReluctant {
             return refuse(refusal);
         }
         trial.takeFrom(port);
-        int items = reader.read(shelves[s]);
+        int items = reader.read(shelves[s], trial);
         latestFault = reader.fault;
         if (latestFault != NONE) {
             return refuse(WRONG);
@@ -1201,19 +1201,14 @@ public final class SeatsToTheReluctant {
         private static final int WORDS = 5;
         private static final int MOST_DIGITS = 2;
 
-        private final Port port;
         private final int[] text = new int[LONGEST_ROW];
         private int length = 0;
         private int place = 0;
         private int numberStart = 0;
         private int fault = NONE;
 
-        Reader(Port onto) {
-            port = onto;
-        }
-
         /** How many items a row has; behind a fault the port is left half told. */
-        int read(Shelf row) {
+        int read(Shelf row, Port onto) {
             length = row.length;
             for (int i = 0; i < length; i++) {
                 text[i] = row.intAt(i);
@@ -1223,7 +1218,7 @@ public final class SeatsToTheReluctant {
             int items = 0;
             boolean goesOn = true;
             while (goesOn && items <= length) {
-                readItem();
+                readItem(onto);
                 items++;
                 goesOn = fault == NONE && place < length;
                 if (goesOn) {
@@ -1234,10 +1229,10 @@ public final class SeatsToTheReluctant {
             return items;
         }
 
-        private void readItem() {
+        private void readItem(Port onto) {
             int start = place;
             int word = readWord();
-            if (word == PERSON && !port.hasRoom()) {
+            if (word == PERSON && !onto.hasRoom()) {
                 fault = start;
             }
             if (fault != NONE) {
@@ -1245,51 +1240,51 @@ public final class SeatsToTheReluctant {
             }
             switch (word) {
                 case FENCE:
-                    readFence();
+                    readFence(onto);
                     break;
                 case OPEN:
-                    readOpen();
+                    readOpen(onto);
                     break;
                 case PERSON:
-                    readPerson();
+                    readPerson(onto);
                     break;
                 case SEATS:
-                    port.seats = readNumber(1, MOST_SEATS);
+                    onto.seats = readNumber(1, MOST_SEATS);
                     break;
                 default:
-                    port.scent = readNumber(0, MOST_SCENT);
+                    onto.scent = readNumber(0, MOST_SCENT);
                     break;
             }
         }
 
-        private void readFence() {
+        private void readFence(Port onto) {
             int square = readNumber(0, SQUARES - 1);
-            if (fault == NONE && !port.mayBeFenced(square)) {
+            if (fault == NONE && !onto.mayBeFenced(square)) {
                 fault = numberStart;
             }
             if (fault == NONE) {
-                port.putFence(square, true);
+                onto.putFence(square, true);
             }
         }
 
-        private void readOpen() {
+        private void readOpen(Port onto) {
             int square = readNumber(0, SQUARES - 1);
             if (fault == NONE) {
-                port.putFence(square, false);
+                onto.putFence(square, false);
             }
         }
 
-        private void readPerson() {
+        private void readPerson(Port onto) {
             int kind = readNumber(0, Kind.COUNT - 1);
             int a = readNumber(0, MOST_A);
             int want = readNumber(0, MOST_WANT);
             int speed = readNumber(1, MOST_SPEED);
             int at = readNumber(0, SQUARES - 1);
-            if (fault == NONE && !port.isOpen(at)) {
+            if (fault == NONE && !onto.isOpen(at)) {
                 fault = numberStart;
             }
             if (fault == NONE) {
-                port.addPerson(kind, a, want, speed, at);
+                onto.addPerson(kind, a, want, speed, at);
             }
         }
 

@@ -70,6 +70,7 @@ public final class LanguageTest {
             String line = m.group().trim();
             rule(12, "no object made by a call: " + line, line.startsWith("private final ")
                 || line.equals("shelves[s] = new Shelf();"));
+            rule(12, "nothing of the object is handed out as it is made: " + line, !line.matches(".*\\bnew \\w+\\([^)].*"));
         }
     }
 
